@@ -73,7 +73,7 @@ public final class QuestionsTest {
         }
     }
 
-    /** Two nodes; node 0 has arrows 0, 2, 3 from it, 1, 3 to it, and 3 to itself; 4 is elsewhere. */
+    /** Node 0 has the arrows 0, 2, 3 from it and 1, 3 to it; arrow 4 is from node 1 to itself. */
     private static ArrowStore smallStore() {
         ArrowStore x = Checks.storeWithNodes(2);
         x.arrow(Checks.ends(0, 1), 0, 10);

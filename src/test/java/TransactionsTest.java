@@ -9,12 +9,14 @@ public final class TransactionsTest {
         promise8Begin();
         promise9End();
         promise9EndKeepsOrHandsOutward();
+        promise9EndEveryKindOfChange();
         promise10Undo();
         promise10UndoEveryKindOfChange();
         promise10UndoFreesNumbers();
         promise11Crash();
         promise11CrashUndoesEndedInnerOnes();
         refusedCallsKeepTheDepth();
+        numbersTooGreatAreNotGoodAtAnyDepth();
         longRuns();
         CHECKS.finish();
     }
@@ -62,6 +64,41 @@ public final class TransactionsTest {
         CHECKS.due("undo() after the end", x.undo(), NONE);
         CHECKS.due("crash() after the end", x.crash(), 0);
         CHECKS.due("what was ended is kept", x.labels(0), 3);
+    }
+
+    private static void promise9EndEveryKindOfChange() {
+        ArrowStore x = Checks.storeWithNodes(4);
+        x.setNode(0, 4, 44);
+        for (int a = 0; a < 3; a++) {
+            x.arrow(Checks.ends(1, 2), 2, 22);
+        }
+        x.begin();
+        CHECKS.due("value(0) within", x.value(0), 44);
+        checkArrow(x, 2, 1, 2, 2, 22);
+        x.begin();
+        x.node(7, 70);
+        x.setNode(0, 1, -1);
+        x.drop(3, false);
+        x.cut(0);
+        x.arrow(Checks.ends(4, 0), 3, 9);
+        x.setWeight(1, 99);
+        x.cut(2);
+        x.end();
+        CHECKS.due("end()", x.end(), 0);
+        CHECKS.due("labels(4)", x.labels(4), 7);
+        CHECKS.due("value(4)", x.value(4), 70);
+        CHECKS.due("labels(0)", x.labels(0), 1);
+        CHECKS.due("value(0)", x.value(0), -1);
+        CHECKS.due("labels(3)", x.labels(3), BAD);
+        checkArrow(x, 0, 4, 0, 3, 9);
+        checkArrow(x, 1, 1, 2, 2, 99);
+        CHECKS.due("look(2, 0)", x.look(2, 0), BAD);
+    }
+
+    private static void checkArrow(ArrowStore x, int a, int... want) {
+        for (int what = 0; what < 4; what++) {
+            CHECKS.due("look(" + a + ", " + what + ")", x.look(a, what), want[what]);
+        }
     }
 
     private static void promise10Undo() {
@@ -176,6 +213,23 @@ public final class TransactionsTest {
         x.cut(0);
         x.drop(0, true);
         CHECKS.due("begin() after refusals", x.begin(), 2);
+    }
+
+    private static void numbersTooGreatAreNotGoodAtAnyDepth() {
+        ArrowStore x = Checks.storeWithNodes(1);
+        x.arrow(0, 0, 0);
+        for (int depth = 1; depth <= 4; depth++) {
+            x.begin();
+        }
+        for (int depth = 4; depth >= 0; depth--) {
+            for (int k = -5; k <= 5; k++) {
+                int n = k == 0 ? 1 : 12 * k;
+                int a = k == 0 ? 1 : 24 * k;
+                CHECKS.due("labels(" + n + ") at depth " + depth, x.labels(n), BAD);
+                CHECKS.due("look(" + a + ", 0) at depth " + depth, x.look(a, 0), BAD);
+            }
+            x.undo();
+        }
     }
 
     /** An object is used for up to 512 calls: all of them may belong to one transaction. */
